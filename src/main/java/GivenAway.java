@@ -326,7 +326,7 @@ public final class GivenAway {
         for (int b = 0; b < now.plan.brides; b++) {
             int wedding = now.weddingOf(b);
             int many = now.isHome(b) ? now.weddingsOn(wedding) : 0;
-            if (many > most || many > 0 && many == most && wedding < day) {
+            if (many > most || many == most && wedding < day) {
                 most = many;
                 day = wedding;
             }
@@ -1389,9 +1389,9 @@ public final class GivenAway {
             }
         }
 
-        /** Goes on from the trial's day; whoLed() then tells the leaders (NONE if it's not in time). */
+        /** Goes on with the trial; whoLed() then tells the leaders (NONE if it's not in 60 days from now). */
         private void foresee() {
-            int until = trial.today() + FORESIGHT;
+            int until = now.today() + FORESIGHT;
             for (int d = 0; d < FORESIGHT && trial.hasWeddingBefore(until); d++) {
                 trial.passDay();
             }
@@ -1517,8 +1517,6 @@ public final class GivenAway {
             }
             for (int guess = 0; guess < GUESSES_OF_ONE * now.plan.people; guess++) {
                 if (suppose(guess) && isSeenInTrial()) {
-                    // Looking at the scales has moved the trial on.
-                    suppose(guess);
                     foresee();
                     noteLeaders();
                 }

@@ -401,6 +401,27 @@ public final class DaleTest {
         Check.due("led", x.person(0, 4), 3);
     }
 
+    private static void imageOfManyActs() {
+        GivenAway x = Check.of(FOUR);
+        for (int i = 0; i < 45; i++) {
+            x.train(0, i % 10);
+        }
+        x.image();
+        for (int i = 0; i < 17; i++) {
+            x.train(0, 9);
+        }
+        x.restore();
+        Check.due("acts", x.count(7), 40);
+        Check.due("trains", x.person(0, 2), 4);
+        for (int i = 39; i >= 0; i--) {
+            Check.due("undo", x.undo(), i);
+            Check.due("trains", x.person(0, 2), (i + 4) % 10);
+        }
+        Check.due("none", x.undo(), -1);
+        Check.due("again", x.restore(), true);
+        Check.due("acts", x.count(7), 40);
+    }
+
     public static void main(String[] args) {
         newObject();
         feed();
@@ -420,6 +441,7 @@ public final class DaleTest {
         tie();
         undo();
         image();
+        imageOfManyActs();
         Check.end("DaleTest");
     }
 }

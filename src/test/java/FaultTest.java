@@ -158,8 +158,32 @@ public final class FaultTest {
         faulty(lines.substring(0, 699) + "+", 1, 700);
     }
 
+    private static void cutOff(String text, int n, int fault, int place) {
+        GivenAway x = new GivenAway();
+        Check.feed(x, text);
+        Check.due("dale(" + n + ") of " + text, x.dale(n), fault);
+        Check.due("fault by dale(" + n + ") of " + text, x.fault(), place);
+    }
+
+    private static void cutTokens() {
+        cutOff("bride 12;", 7, 1, 7);
+        cutOff("bride 12;", 8, 1, 8);
+        cutOff("bride 12;", 6, 1, 6);
+        cutOff("brides", 5, 1, 5);
+        cutOff("weighs 12345;", 11, 1, 11);
+        cutOff("weighs grief;", 11, 3, 7);
+        cutOff("weighs 1;;", 9, 0, -1);
+        faulty("weighs z;", 3, 7);
+        faulty("weighs a;", 3, 7);
+        faulty("weighs {;", 1, 7);
+        faulty("weighs `;", 1, 7);
+        faulty("weighs :;", 1, 7);
+        fine("weighs 9;");
+    }
+
     public static void main(String[] args) {
         texts();
+        cutTokens();
         tooMuch();
         unknown();
         tiedAndTwice();
