@@ -84,6 +84,9 @@ public final class QuestionTest {
         Check.due("beasts don't mourn", x.toTrain(3, 1), -1);
         Check.due("no tie", x.toTrain(3, 0), -1);
         Check.due("trains stay", x.person(2, 2), 0);
+        String beside = "friend 20 0 0;bride 1;tie 0 0 1;tie 1 0 1;";
+        Check.due("9 at most", Check.of("beast 28 0 0;" + beside).toTrain(1, 0), 9);
+        Check.due("10 would be too many", Check.of("beast 29 0 0;" + beside).toTrain(1, 0), -1);
         x.days(3);
         Check.due("gone", x.toTrain(0, 0), -1);
         Check.noSuch("toTrain(4, 0)", () -> x.toTrain(4, 0));
@@ -300,9 +303,28 @@ public final class QuestionTest {
         Check.due("no bride", Check.of("beast 2 0 0;").next(0), -1);
         Check.due("no bride", Check.of("beast 2 0 0;").next(1), 0);
         Check.due("nobody", Check.of("bride 2;").next(0), -1);
+        GivenAway only = Check.of("father 9 0 2;beast 8 0 0;bride 0;tie 0 0 1;tie 1 0 1;weighs grief-2*onions*(kind=0);");
+        only.see(0, 0, 0, 1, true);
+        Check.due("by no onions of the first alone", only.hidden(0), 1);
+        Check.due("the first", only.hidden(1), 0);
+        Check.due("one leader", only.next(1), 1);
+        Check.due("bride", only.next(0), 0);
+        lookingAhead();
         GivenAway none = Check.of("beast 9 0 0;bride 0;bride 0;tie 0 1 2;");
         Check.due("none is one", none.next(1), 2);
         Check.due("bride", none.next(0), 1);
+    }
+
+    private static void lookingAhead() {
+        String text = "beast 0 0 0;beast 20 0 0;bride 1;bride 40;tie 0 1 1;tie 1 1 1;mourns onions*(1-day/60);";
+        GivenAway x = Check.of(text);
+        x.see(0, 20, 0, 1, false);
+        Check.due("onions make grief", x.next(1), 2);
+        Check.due("bride", x.next(0), 1);
+        x.putOff(1, 59);
+        Check.due("on the 60th day from now", x.next(1), 2);
+        x.putOff(1, 60);
+        Check.due("not in 60 days from now, however far is seen", x.next(1), 1);
     }
 
     private static void game() {
