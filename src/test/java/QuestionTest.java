@@ -3,6 +3,8 @@ public final class QuestionTest {
     private static final String FOUR = "father 40 3 0;friend 30 1 2;suitor 60 0 5;beast 20 9 0;"
             + "bride 2;bride 2;bride 5;tie 0 0 20;tie 1 0 10;tie 2 0 1;tie 0 1 15;tie 3 1 12;tie 1 2 5;";
 
+    private static final String BEASTS = "beast 0 0 0;beast 90 0 0;bride 4;bride 60;";
+
     private QuestionTest() {
     }
 
@@ -378,8 +380,8 @@ public final class QuestionTest {
         Check.illegal("-1 days", () -> x.drawn(5, -1, 2));
         Check.noSuch("drawn what 3", () -> x.drawn(5, 61, 3));
         Check.noSuch("drawn what -1", () -> x.drawn(5, 0, -1));
-        GivenAway beasts = Check.of("beast 0 0 0;beast 90 0 0;bride 4;bride 60;");
         for (int first = -300; first < 300; first++) {
+            GivenAway beasts = Check.of(BEASTS);
             int[] seed = {first};
             int[] grief = {0, 90};
             int[] wedding = {4, 60};
@@ -398,8 +400,9 @@ public final class QuestionTest {
             Check.due("gone by " + first, beasts.drawn(first, 7, 0), dog);
             Check.due("the dog's by " + first, beasts.drawn(first, 7, 1), dog);
             Check.due("grief by " + first, beasts.drawn(first, 7, 2), grief[0] + grief[1]);
+            Check.due("nothing changes", beasts.count(6), 90);
         }
-        Check.due("nothing changes", beasts.count(6), 90);
+        GivenAway beasts = Check.of(BEASTS);
         beasts.days(5);
         Check.due("gone ahead of these days counts", beasts.drawn(1, 0, 0), 1);
         Check.due("the dog's in these days", beasts.drawn(1, 0, 1), 0);

@@ -64,10 +64,14 @@ public final class RoomTest {
         GivenAway warm = new GivenAway();
         askAll(warm, words);
         Check.due("the text has been read", warm.count(0), 9);
+        GivenAway[] many = new GivenAway[20];
+        for (int i = 0; i < many.length; i++) {
+            many[i] = new GivenAway();
+        }
         made();
         long ahead = made();
-        for (int i = 0; i < 20; i++) {
-            askAll(warm, words);
+        for (int i = 0; i < many.length; i++) {
+            askAll(many[i], words);
         }
         long byCalls = made() - ahead;
         Check.due("bytes made by calls: " + byCalls, byCalls < 2000, true);
