@@ -86,6 +86,9 @@ final class EdgeSeen {
 
     private static void hidden() {
         Edge.promise(33);
+        // Any other onions of 0 and 2, up to 4 of 1, who weighs 49 less those against 44.
+        Edge.asked("hidden(0)", 9 + 4 + 9, x -> x.hidden(0));
+        Edge.asked("hidden(1)", 1, x -> x.hidden(1));
         Edge.asked("hidden(2)", 1, x -> x.hidden(2));
         Edge.noSuch("hidden(-1)", x -> x.hidden(-1));
         Edge.noSuch("hidden(3)", x -> x.hidden(3));
