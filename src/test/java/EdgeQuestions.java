@@ -274,6 +274,14 @@ final class EdgeQuestions {
         GivenAway chain = Check.of("beast 30 0 0;beast 20 0 0;beast 15 0 0;bride 0;bride 1;"
                 + "tie 0 0 1;tie 1 0 1;tie 1 1 1;tie 2 1 1;");
         Edge.due("another one, and another for another's sake", chain.instead(0), 3);
+        GivenAway full = Check.of("beast 40 0 0;beast 9 0 0;" + "beast 1 0 0;".repeat(7) + "bride 0;".repeat(6)
+                + "tie 0 0 1;tie 0 1 1;tie 1 0 1;tie 8 5 1;");
+        Edge.due("of six BRIDES: 1 in place of 0, the dog in place of 0", full.instead(0), 3);
+        Edge.due("the last of nine for the last of six", full.instead(8), 32);
+        Edge.due("who is behind 0 leads none", full.instead(1), 0);
+        GivenAway next = Check.of("beast 40 0 0;beast 30 0 0;" + "bride 0;".repeat(6) + "tie 0 1 1;tie 1 0 1;");
+        Edge.due("TIES of the next one stay", next.instead(0), 2);
+        Edge.due("TIES of the one ahead stay", next.instead(1), 1);
         GivenAway rivals = Check.of("beast 9 0 0;beast 8 0 0;bride 0;tie 0 0 1;tie 1 0 1;weighs grief*rivals;");
         Edge.due("fewer rivals: the dog in place of 0", rivals.instead(1), 1);
         GivenAway dog = Check.of("beast 0 0 9;bride 0;tie 0 0 1;");

@@ -11,10 +11,13 @@ final class EdgeSeen {
         seeEight();
         hidden();
         mostHidden();
+        soWithoutAlone();
         whatIsSeen();
         daysAhead();
         next();
         leadersUnlike();
+        unlikeOfSix();
+        notBeyondSixtyDays();
         forget();
         game();
         noGame();
@@ -143,6 +146,25 @@ final class EdgeSeen {
         Edge.due("ONIONS stay", same.person(0, 3), 4);
     }
 
+    private static void soWithoutAlone() {
+        Edge.term("HIDDEN");
+        // A father weighs 1 by no onions alone, a friend by any: whoever had others would not be as is seen.
+        StringBuilder text = new StringBuilder("father 0 0 0;friend 0 0 0;".repeat(4) + "father 0 0 0;bride 5;");
+        for (int p = 0; p < 9; p++) {
+            text.append("tie ").append(p).append(" 0 1;");
+        }
+        GivenAway x = Check.of(text + "weighs (onions=0)=(kind=0);");
+        for (int p = 0; p < 9; p += 2) {
+            x.see(0, 0, p, p == 8 ? 1 : p + 1, true);
+        }
+        Edge.due("so without", x.hidden(2), 1);
+        Edge.due("by no other ONIONS of nine PEOPLE", x.hidden(0), 0);
+        Edge.due("no first", x.hidden(1), -1);
+        Edge.term("WEIGH NEXT");
+        Edge.due("none without any", x.next(0), -1);
+        Edge.due("none without any", x.next(1), 0);
+    }
+
     private static void whatIsSeen() {
         Edge.term("SEEN");
         GivenAway x = Check.of("beast 5 0 0;beast 5 0 0;beast 0 0 9;beast 1 1 1;beast 1 1 1;bride 9;tie 0 0 1;tie 1 0 1;tie 2 0 1;");
@@ -252,6 +274,39 @@ final class EdgeSeen {
         GivenAway like = Check.of("beast 9 0 0;beast 9 0 0;bride 0;bride 1;tie 0 0 1;tie 1 0 1;tie 0 1 1;tie 1 1 1;");
         Edge.due("two alike", like.next(1), 2);
         Edge.due("the least", like.next(0), 0);
+    }
+
+    private static void unlikeOfSix() {
+        Edge.term("WEIGH NEXT");
+        GivenAway x = Check.of("beast 90 0 0;beast 90 0 0;" + "bride 1;".repeat(5) + "bride 0;tie 0 5 1;tie 1 5 1;tie 0 1 1;");
+        Edge.due("the last of six", x.next(0), 5);
+        Edge.due("either or", x.next(1), 2);
+        GivenAway none = Check.of("beast 9 0 0;" + "bride 1;".repeat(6));
+        Edge.due("six led by the dog: the least", none.next(0), 0);
+        Edge.due("none is one", none.next(1), 1);
+    }
+
+    private static void notBeyondSixtyDays() {
+        Edge.term("WEIGH NEXT");
+        // By onions grief grows, so that 0 may come to weigh more than 1 for bride 1.
+        GivenAway x = Check.of("beast 0 0 0;beast 20 0 0;bride 1;bride 40;tie 0 1 1;tie 1 1 1;mourns onions*(1-day/60);");
+        x.see(0, 20, 0, 1, false);
+        Edge.due("on DAY 40", x.next(1), 2);
+        Edge.due("the BRIDE", x.next(0), 1);
+        x.putOff(1, 59);
+        Edge.due("on the last of 60 DAYS", x.next(1), 2);
+        x.putOff(1, 60);
+        Edge.due("not in 60 DAYS, however far is SEEN", x.next(1), 1);
+        Edge.due("all are alike: the least", x.next(0), 0);
+        x.days(1);
+        Edge.due("on the last of 60 DAYS from now on", x.next(1), 2);
+        GivenAway six = Check.of("beast 0 0 0;beast 20 0 0;" + "bride 1;".repeat(5) + "bride 59;tie 0 0 1;tie 0 1 1;tie 0 5 1;"
+                + "tie 1 5 1;weighs grief+years;mourns onions*(1-day/60);");
+        six.see(2, 20, 0, 1, false);
+        Edge.due("the last of six on the last of 60 DAYS", six.next(0), 5);
+        Edge.due("either or", six.next(1), 2);
+        six.putOff(5, 60);
+        Edge.due("the last of six not in 60 DAYS", six.next(1), 1);
     }
 
     private static void forget() {

@@ -249,6 +249,15 @@ final class EdgeTexts {
             }
         }
         for (int i = 1; i <= 3; i++) {
+            Edge.due("a rule with 'not'", Check.dale(x, couple + "weighs not 0;mourns not 0;"), 0);
+            Edge.due("by 'not'", x.weight(0, 0), 1);
+        }
+        for (int i = 1; i <= 3; i++) {
+            Edge.due("a shorter rule", Check.dale(x, couple + "weighs 5;mourns 5;"), 0);
+            Edge.due("nothing is left of the longer WEIGHS", x.weight(0, 0), 5);
+            Edge.due("nothing is left of the longer MOURNS", x.then(0, 1), 15);
+        }
+        for (int i = 1; i <= 3; i++) {
             Edge.due("without rules", Check.dale(x, couple), 0);
             Edge.due("without WEIGHS", x.weight(0, 0), 15);
             Edge.due("without MOURNS", x.then(0, 1), 11);
